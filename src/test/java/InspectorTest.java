@@ -42,6 +42,7 @@ public final class InspectorTest {
         Check.due("enough(): a crowd of 0 is nobody", x.enough(), 3);
         x = Check.under("tax root 0 third 1;choice a;shop m crowd 5;shop n crowd 7;shop o crowd 5;shop p crowd 7;"
             + "lane m n;lane n o;lane o p;lane p m");
+        Check.due("a crowd of 1", Check.under("tax root 0 third 1;choice a;shop m crowd 0;shop n crowd 1").places(2), 2);
         Check.due("places(1) in a ring", x.places(1), 1);
         Check.due("caught(1) in a ring", x.caught(1), 19);
         Check.due("places(2): two that are least", x.places(2), 3);

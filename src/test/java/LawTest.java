@@ -19,6 +19,7 @@ public final class LawTest {
         lacks();
         leastOfOnePlace();
         faultKeepsAll();
+        nothingOfAnotherLaw();
         Check.end();
     }
 
@@ -79,6 +80,11 @@ public final class LawTest {
         Check.due("worth(1, 0)", x.worth(1, 0), 5);
         Check.due("the first n bytes alone", lawsOf(x, AB + "nonsense", AB.length() - 1), 0);
         Check.due("the rest of the tape is gone", x.size(13), 0);
+        Check.due("a WHOLE ends with the n bytes", lawsOf(x, T + "choice a;far a a by 1;tax root 555", 27), 0);
+        Check.due("a WHOLE ends with the n bytes", lawsOf(x, AB + "far a b by 12345", AB.length() + 12), 0);
+        Check.due("far(0, 1)", x.far(0, 1), 1);
+        Check.due("a WORD ends with the n bytes", lawsOf(x, AB + "choice abcdefghijkl", AB.length() + 9), 0);
+        Check.due("size(2)", x.size(2), 3);
         Check.due("names count anew", Check.laws(x, AB + "person p proud holds b"), 1);
     }
 
@@ -134,6 +140,13 @@ public final class LawTest {
         Check.fault("tax root 0003 third 2", 1, 9);
         Check.fault(T, 1, 19);
         Check.fault(T + ";", 1, 19);
+        Check.fault("wax root 3 third 2;choice a", 1, 0);
+        Check.fault(T + "choice", 1, 25);
+        Check.fault(T + "choice ;", 1, 26);
+        Check.fault(AB + "shop ;", 1, 42);
+        Check.fault(AB + "person p holds a", 1, 46);
+        Check.fault(AB + "person p", 1, 45);
+        Check.fault(AB + "far a", 1, 42);
         Check.fault(T + "Choice a", 1, 19);
         Check.fault(T + "choice 7", 1, 26);
         Check.fault(T + "choice lane", 1, 26);
@@ -188,6 +201,7 @@ public final class LawTest {
         Check.fault(AB + "far a b by 1;far a b by 2", 3, 56);
         Check.fault(AB + "far a b by 1;far b a by 2", 3, 56);
         Check.fault(P + "likes p b worth 0;likes p b worth 1", 3, 86);
+        Check.fault(P + "likes p b worth 0;likes p a worth 1;likes p b worth 0", 3, 104);
         Check.fault(P + "shop s crowd 1;shop u crowd 1;lane u u", 3, 97);
         Check.fault(P + "shop s crowd 1;shop u crowd 1;lane s u;lane u s", 3, 106);
         Check.fault(T + "choice a;tax root 99", 3, 28);
@@ -280,6 +294,41 @@ public final class LawTest {
             x.led(9);
         } catch (NoSuchElementException e) {
             Check.due("where() stays behind led()", x.where(), 0);
+        }
+    }
+
+    private static void nothingOfAnotherLaw() {
+        WaverTax x = Check.under("tax root 9 third 4;choice a;choice b;choice c;far a b by 9;far b c by 8;"
+            + "person p proud holds c;person q mad holds a;likes p a worth 9;likes q b worth 8;"
+            + "reason p b at 1 odds 100 more 9;paid q 0 hour 99;paid p 18 hour 99;"
+            + "shop s crowd 9;shop u crowd 8;lane s u");
+        Check.due("ask()", x.ask(), 0);
+        x.hours(1);
+        x.change(0, 1);
+        // the first two texts may be kept somewhere; what is read third must not lie upon them
+        for (int i = 0; i < 3; i++) {
+            Check.due("laws", Check.laws(x, P + "person q plain holds b;likes p b worth 1;likes q a worth 1;far a b by 2;"
+                + "reason p a at 2 odds 0 more 1;paid p 77 hour 0;shop m crowd 1;shop n crowd 1"), 2);
+            Check.due("came(0)", x.came(0), 0);
+            Check.due("far(0, 1)", x.far(0, 1), 2);
+            Check.due("worth(0, 0)", x.worth(0, 0), 0);
+            Check.due("worth(1, 1)", x.worth(1, 1), 0);
+            Check.due("person(0, 0)", x.person(0, 0), 0);
+            Check.due("catches(0)", x.catches(0), 1);
+            Check.due("ask()", x.ask(), -2);
+            int[] due = {3, 2, 2, 2, 2, 1, 1, 2, 0, 0, 0, 0, 0, 0};
+            for (int what = 0; what < due.length; what++) {
+                Check.due("size(" + what + ")", x.size(what), due[what]);
+            }
+        }
+        for (int i = 0; i < 3; i++) {
+            Check.due("laws", Check.laws(x, T + "choice a;choice b;choice c;person p plain holds a"), 1);
+            Check.due("farthest()", x.farthest(), 1);
+            Check.due("far(0, 1)", x.far(0, 1), 1);
+            Check.due("worth(0, 1)", x.worth(0, 1), 0);
+            for (int what = 4; what <= 13; what++) {
+                Check.due("size(" + what + ")", x.size(what), 0);
+            }
         }
     }
 }

@@ -599,7 +599,51 @@ public final class ModelTest {
         for (int c = 0; c < choices; c++) {
             Check.due(at + "far", x.far(c, t(c)), far[c][t(c)]);
         }
+        for (int c = 0; c < choices; c++) {
+            Check.due(at + "holders", x.holders(c), holders(c));
+        }
+        Check.due(at + "fashion", x.fashion(), fashion());
+        Check.due(at + "farthest", x.farthest(), farthest());
+        int i = 0;
+        for (int p = 0; p < people; p++) {
+            if (world.stands.get(p).held == first[p]) {
+                Check.due(at + "led", x.led(i), p);
+                i++;
+            }
+        }
         Check.due(at + "paid", x.paid(), world.stands.stream().mapToInt(Stand::paid).sum());
+    }
+
+    private int holders(int c) {
+        int bits = 0;
+        for (int p = 0; p < people; p++) {
+            bits += world.stands.get(p).held == c ? 1 << p : 0;
+        }
+        return bits;
+    }
+
+    private int fashion() {
+        for (int many = people; many >= 0; many--) {
+            for (int c = 0; c < choices; c++) {
+                if (Integer.bitCount(holders(c)) == many) {
+                    return c;
+                }
+            }
+        }
+        return -99;
+    }
+
+    private int farthest() {
+        for (int apart = 9; apart >= 1; apart--) {
+            for (int c = 0; c < choices; c++) {
+                for (int d = c + 1; d < choices; d++) {
+                    if (far[c][d] == apart) {
+                        return 10 * c + d;
+                    }
+                }
+            }
+        }
+        return -2;
     }
 
     private int t(int c) {

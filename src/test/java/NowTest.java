@@ -139,9 +139,11 @@ public final class NowTest {
         Check.due("led(2)", x.led(2), 3);
         noLed(x, 3);
         x.change(2, 1);
-        Check.due("fashion() of like ones", x.fashion(), 1);
+        Check.due("fashion()", x.fashion(), 1);
+        x.change(1, 3);
+        Check.due("fashion() of like ones the first", x.fashion(), 0);
         x.change(2, 2);
-        Check.due("led(1) who came home", x.led(1), 2);
+        Check.due("led(0) who came home", x.led(0), 2);
     }
 
     private static void noLed(WaverTax x, int i) {

@@ -12,6 +12,7 @@ public final class PlanTest {
         cameAlready();
         manyReasons();
         leavesNow();
+        alone();
         refusals();
         Check.end();
     }
@@ -100,6 +101,26 @@ public final class PlanTest {
         Check.due("size(10)", x.size(10), seed);
         Check.due("size(11)", x.size(11), 2);
         Check.due("came(1)", x.came(1), 0);
+    }
+
+    /** Each call by itself, so that none can live on what another one left behind. */
+    private static void alone() {
+        mean("stays(1, 2)", Check.under(LAW).stays(1, 2, false), Check.under(LAW).stays(0, 3, true), 0, 2);
+        mean("planBy(1, 1, 2)", Check.under(LAW).planBy(1, 1, 2, false), Check.under(LAW).planBy(1, 2, 2, true), 3, 2);
+        Check.due("planFirst(1, 2)", Check.under(LAW).planFirst(1, 2), 0);
+        WaverTax x = Check.under(LAW);
+        x.person(9, 9);
+        x.stays(0, 1, false);
+        Check.due("trouble() of stays", x.trouble(), 0);
+        x.person(9, 9);
+        x.plan(0, 1, false);
+        Check.due("trouble() of plan", x.trouble(), 0);
+        x.person(9, 9);
+        x.planBy(0, 1, 2, true);
+        Check.due("trouble() of planBy", x.trouble(), 0);
+        x.person(9, 9);
+        x.planFirst(0, 1);
+        Check.due("trouble() of planFirst", x.trouble(), 0);
     }
 
     private static void refusals() {

@@ -89,6 +89,8 @@ public final class YearTest {
         }
         Check.due("year(5624, 20)", year, due);
         Check.due("yearChanges(5624, 20)", yearChanges, changes);
+        Check.due("yearHeld alone", Check.under(LAW).yearHeld(1, 0, 3), 2);
+        Check.due("yearChanges alone", Check.under(LAW).yearChanges(0, 3), 3);
         WaverTax late = Check.under(LAW);
         for (int i = 0; i < 41; i++) {
             late.hours(24);
