@@ -1077,7 +1077,7 @@ public final class WaverTax {
             return scale;
         }
 
-        long best(int left) {
+        private long best(int left) {
             int held = trial.held[one];
             long most = by(held, left);
             for (int c = 0; c < law.choices; c++) {
@@ -1101,7 +1101,7 @@ public final class WaverTax {
             return first;
         }
 
-        long by(int c, int left) {
+        private long by(int c, int left) {
             long has = desk.leftOf(one, c);
             if (left <= 1) {
                 return has;
