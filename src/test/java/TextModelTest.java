@@ -322,6 +322,9 @@ public final class TextModelTest {
             if (line.size() == 4 && line.get(0).equals("paid") && random.nextInt(12) > 0) {
                 value = hours.merge(line.get(1), 1 + random.nextInt(9), Integer::sum);
             }
+            if (random.nextInt(150) == 0) {
+                value = random.nextBoolean() || least == 0 ? most + 1 : least - 1;
+            }
             return random.nextInt(20) == 0 && value < 10 ? "00" + value : "" + value;
         }
         if (piece.startsWith("+")) {
